@@ -243,7 +243,7 @@ public final class HealLink {
         if (what < 0 || what > 9) {
             return NONE;
         }
-        return rules.allStates() > MOST_STATES ? UNKNOWN : surveyor().censusOf(rules, what);
+        return rules.allStates() > MOST_STATES ? UNKNOWN : surveyor().censusOf(rules)[what];
     }
 
     public int struck() {
@@ -364,12 +364,17 @@ public final class HealLink {
         return counts[0] - before;
     }
 
+    /** Does a step, by no more than so many acts, and answers whether it was possible. */
     private boolean doStep(int step, int most) {
         int what = plan.what[step];
         int label = plan.first[step];
         int value = plan.second[step];
         if (what == Steps.CLEAR) {
-            clearPackets(Math.min(label, most));
+            int kind = rules.firstPacket(state);
+            for (int i = 0; i < label && i < most && kind != NONE; i++) {
+                perform(Acts.codeOf(LOSE_PACKET, kind >> 1, kind & 1));
+                kind = rules.firstPacket(state);
+            }
             return true;
         }
         if (!rules.offers(state, what, label, value)) {
@@ -377,16 +382,6 @@ public final class HealLink {
         }
         perform(Acts.codeOf(what, label, value));
         return true;
-    }
-
-    private void clearPackets(int times) {
-        for (int i = 0; i < times; i++) {
-            int kind = rules.firstPacket(state);
-            if (kind == NONE) {
-                return;
-            }
-            perform(Acts.codeOf(LOSE_PACKET, kind >> 1, kind & 1));
-        }
     }
 
     /**
@@ -499,20 +494,19 @@ public final class HealLink {
             return (int) (state >>> LAST_AT) & 3;
         }
 
+        // The sum of digits of two bits: so many low bits, and twice so many high ones.
         static int seenIn(long state) {
-            return sum(state >>> SEEN_AT & 0xFFFF);
+            long digits = state >>> SEEN_AT;
+            return Long.bitCount(digits & 0x5555) + 2 * Long.bitCount(digits & 0xAAAA);
         }
 
         static int packetsIn(long state) {
-            return sum(state >>> PACKETS_AT & 0xFFFF);
+            long digits = state >>> PACKETS_AT;
+            return Long.bitCount(digits & 0x5555) + 2 * Long.bitCount(digits & 0xAAAA);
         }
 
         static int lettersIn(long state) {
-            return sum(state & 0xFF);
-        }
-
-        private static int sum(long digits) {
-            return Long.bitCount(digits & 0x5555) + 2 * Long.bitCount(digits & 0xAAAA);
+            return Long.bitCount(state & 0x55) + 2 * Long.bitCount(state & 0xAA);
         }
 
         static long withSender(long state, int label, int value, int acks, boolean taken) {
@@ -799,29 +793,22 @@ public final class HealLink {
             Arrays.fill(slots, 0);
         }
 
+        /** Whether all that is reached could be numbered. */
         private boolean expandAll() {
+            int e = 0;
             for (int s = 0; s < size && s < MOST_STATES; s++) {
-                if (!expand(s)) {
-                    return false;
+                acts.list(rules, states[s], true);
+                for (int i = 0; i < acts.size && e < edges.length; i++) {
+                    long next = rules.after(states[s], acts.codes[i]);
+                    int target = numberOf(next & Rules.STATE);
+                    if (target == NONE) {
+                        return false;
+                    }
+                    edges[e] = 4 * target + markOf(Rules.outcomeOf(next));
+                    e++;
                 }
+                first[s + 1] = e;
             }
-            return true;
-        }
-
-        private boolean expand(int s) {
-            long state = states[s];
-            acts.list(rules, state, true);
-            int e = first[s];
-            for (int i = 0; i < acts.size && e < edges.length; i++) {
-                long next = rules.after(state, acts.codes[i]);
-                int target = numberOf(next & Rules.STATE);
-                if (target == NONE) {
-                    return false;
-                }
-                edges[e] = 4 * target + markOf(Rules.outcomeOf(next));
-                e++;
-            }
-            first[s + 1] = e;
             return true;
         }
 
@@ -956,7 +943,10 @@ public final class HealLink {
         }
 
         private static int greater(int a, int b) {
-            return a == ENDLESS || b == ENDLESS ? ENDLESS : Math.max(a, b);
+            if (a == ENDLESS || b == ENDLESS) {
+                return ENDLESS;
+            }
+            return a > b ? a : b;
         }
 
         /** The first state that has the greatest WORST. */
@@ -1204,39 +1194,32 @@ public final class HealLink {
         }
 
         int leastAcks(Rules rules, long state) {
-            if (tried != state) {
-                enoughAcks = tryAcks(rules, state);
-                tried = state;
-                charted = NONE;
+            if (tried == state) {
+                return enoughAcks;
+            }
+            tried = state;
+            charted = NONE;
+            enoughAcks = NONE;
+            for (int acks = 1; acks <= 7 && enoughAcks == NONE; acks++) {
+                long from = Rules.acksOf(state) < acks ? state : Rules.withoutAcks(state);
+                atlas.chart(rules.with(ACKS, acks), from);
+                if (!atlas.known) {
+                    enoughAcks = UNKNOWN;
+                } else {
+                    measure();
+                    enoughAcks = depths.worst[0] == ENDLESS ? NONE : acks;
+                }
             }
             return enoughAcks;
         }
 
-        private int tryAcks(Rules rules, long state) {
-            for (int acks = 1; acks <= 7; acks++) {
-                long from = Rules.acksOf(state) < acks ? state : Rules.withoutAcks(state);
-                atlas.chart(rules.with(ACKS, acks), from);
-                if (!atlas.known) {
-                    return UNKNOWN;
-                }
-                measure();
-                if (depths.worst[0] != ENDLESS) {
-                    return acks;
-                }
+        /** The answers of every(), if there are not too many states. */
+        int[] censusOf(Rules rules) {
+            if (counted) {
+                return census;
             }
-            return NONE;
-        }
-
-        int censusOf(Rules rules, int what) {
-            if (!counted) {
-                takeCensus(rules);
-                counted = true;
-                charted = NONE;
-            }
-            return what < 0 || what >= census.length ? NONE : census[what];
-        }
-
-        private void takeCensus(Rules rules) {
+            counted = true;
+            charted = NONE;
             atlas.chartAll(rules);
             measure();
             int hardest = depths.hardest(atlas.size);
@@ -1251,6 +1234,7 @@ public final class HealLink {
             census[7] = Rules.packetsIn(state);
             census[8] = Rules.lettersIn(state);
             census[9] = Rules.seenIn(state);
+            return census;
         }
     }
 
