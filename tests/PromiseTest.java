@@ -27,6 +27,7 @@ public final class PromiseTest {
         count();
         possible();
         reached();
+        justKnown();
         worst();
         soonestAndWay();
         wayTellsTheNextValue();
@@ -478,6 +479,36 @@ public final class PromiseTest {
         Due.is("nor PACKETS", x.of(5), 1);
     }
 
+    private static void justKnown() {
+        HealLink x = link(1, 4, 3, 4);
+        Model model = new Model();
+        int[] settings = {1, 4, 3, 4};
+        for (int what = 0; what < 4; what++) {
+            model.set(what, settings[what]);
+        }
+        x.sender(2, 1, 0, false);
+        model.sender(2, 1, 0, false);
+        Due.is("6000 are not too many", x.reached(), 6000);
+        Due.is("worst", x.worst(), model.worst());
+        Due.is("soonest", x.soonest(), model.soonest());
+        Due.is("way", x.way(7, 0), model.way(7, 0));
+        Due.is("barren", x.barren(), model.barren());
+        Due.is("steps", x.steps(), model.steps());
+        Due.is("odds", x.odds(40), model.odds(40));
+        x.sender(3, 0, 0, true);
+        x.last(2);
+        x.seen(1, 1, 1);
+        x.packets(1, 1, 1);
+        Due.is("6007 are", x.reached(), -3);
+        Due.is("worst", x.worst(), -3);
+        Due.is("odds", x.odds(1), -3);
+        x.packets(1, 1, 0);
+        x.seen(1, 1, 0);
+        x.last(3);
+        x.sender(2, 1, 0, false);
+        Due.is("6000 again", x.reached(), 6000);
+    }
+
     // Promise 17
     private static void worst() {
         Due.is("it heals", link(1, 3, 3, 2).worst(), 0);
@@ -652,6 +683,8 @@ public final class PromiseTest {
         Due.is("others, UNKNOWN or not", y.every(10), NONE);
         Due.is("5760 are known", link(1, 4, 2, 1).every(1), 5760);
         Due.is("so many that an int has no room", link(2, 4, 7, 4).every(1), -3);
+        Due.is("5760 are known at CAPACITY 2", link(2, 2, 4, 1).every(1), 5760);
+        Due.is("7200 are not", link(2, 2, 5, 1).every(1), -3);
         everyWithSeen();
     }
 
@@ -771,6 +804,9 @@ public final class PromiseTest {
         Due.is("by LABEL, then VALUE", kindOf(y, 1, 0, 1), 1);
         y.packets(1, 1, 1);
         Due.is("as long as there is one", script(y, "clear 09;clear 9;send;"), 3);
+        HealLink z = link(2, 2, 1, 1);
+        Due.is("clear ends at 600", script(z, "again 20[again 29[send;];];again 19[send;];clear 9;"), 600);
+        Due.is("so one of two is left", z.of(5), 1);
         Due.is("much of nothing", script(y, "again 30[again 30[again 30[again 30[clear 1;];];];];"), 1);
     }
 
@@ -802,6 +838,12 @@ public final class PromiseTest {
         fault("send;;", 5, 1);
         fault("send;sent;", 5, 1);
         fault("sendx;", 0, 1);
+        fault("sendz;", 0, 1);
+        fault("asend;", 0, 1);
+        fault("send`;", 4, 1);
+        fault("send{;", 4, 1);
+        fault("come 0/;", 6, 1);
+        fault("come 0:;", 6, 1);
         fault("Send;", 0, 1);
         fault("send 1;", 5, 1);
         fault("send;\t", 5, 1);
