@@ -402,14 +402,14 @@ final class Model {
     }
 
     int possible(int i, int what) {
+        if (what != 0 && what != 1 && what != 2) {
+            return -1;
+        }
         List<int[]> acts = possibleActs(now);
         if (i == -1) {
             return acts.size();
         }
-        if (i < 0 || i >= acts.size() || what < 0 || what > 2) {
-            return -1;
-        }
-        return acts.get(i)[what];
+        return i >= 0 && i < acts.size() ? acts.get(i)[what] : -1;
     }
 
     private List<Edge> edgesOf(State s, List<State> targets) {
@@ -569,12 +569,12 @@ final class Model {
     }
 
     int way(int i, int what) {
-        if (i < 0 || what < 0 || what > 2) {
-            return -2;
-        }
         Graph g = reachedGraph();
         if (g == null) {
             return -3;
+        }
+        if (i < 0 || what < 0 || what > 2) {
+            return -2;
         }
         int[] d = distances(g, false);
         if (i >= d[0]) {

@@ -30,6 +30,7 @@ public final class PromiseTest {
         justKnown();
         worst();
         soonestAndWay();
+        wayUnknown();
         wayTellsTheNextValue();
         barrenAndSteps();
         odds();
@@ -449,13 +450,27 @@ public final class PromiseTest {
                 Due.is("possible(" + i + "," + what + ")", x.possible(i, what), want[i][what]);
             }
         }
-        Due.is("possible(9)", x.possible(9, 0), NONE);
-        Due.is("possible(-2)", x.possible(-2, 0), NONE);
-        Due.is("possible(0,3)", x.possible(0, 3), NONE);
-        Due.is("possible(0,-1)", x.possible(0, -1), NONE);
+        possibleOthers(x, want.length);
         x.packets(0, 1, 0);
         x.packets(2, 0, 2);
         Due.is("like ones once", x.possible(NONE, 0), 7);
+    }
+
+    /** How many is asked by one of the three `what` that the promise tells, too. */
+    private static void possibleOthers(HealLink x, int acts) {
+        int[] others = {3, 4, 100, -1, -2, -3, Integer.MAX_VALUE, Integer.MIN_VALUE};
+        for (int what : others) {
+            for (int i = NONE; i <= acts; i++) {
+                Due.is("possible(" + i + "," + what + ")", x.possible(i, what), NONE);
+            }
+        }
+        int[] noSuch = {acts, acts + 1, 100, -2, -3, Integer.MAX_VALUE, Integer.MIN_VALUE};
+        for (int what = 0; what < 3; what++) {
+            Due.is("possible(NONE," + what + ")", x.possible(NONE, what), acts);
+            for (int i : noSuch) {
+                Due.is("possible(" + i + "," + what + ")", x.possible(i, what), NONE);
+            }
+        }
     }
 
     // Promise 16
@@ -542,7 +557,6 @@ public final class PromiseTest {
         Due.is("never", x.soonest(), NONE);
         Due.is("no WAY", x.way(0, 0), -2);
         Due.is("UNKNOWN", link(2, 4, 1, 1).soonest(), -3);
-        Due.is("UNKNOWN WAY", link(2, 4, 1, 1).way(0, 0), -3);
         x.packets(0, 1, 1);
         Due.is("by one ACT", x.soonest(), 1);
         int[] want = {1, 0, 1};
@@ -564,6 +578,23 @@ public final class PromiseTest {
         }
         Due.is("way(3,0)", y.way(3, 0), -2);
         Due.is("nothing was done", y.count(0), 0);
+    }
+
+    /** Whatever is asked of it, an UNKNOWN WAY is UNKNOWN; of a known one others are none such. */
+    private static void wayUnknown() {
+        HealLink x = link(2, 4, 1, 1);
+        int[] numbers = {0, 1, 2, 3, 4, 100, 6000, -1, -2, -3, Integer.MAX_VALUE, Integer.MIN_VALUE};
+        for (int i : numbers) {
+            for (int what : numbers) {
+                Due.is("UNKNOWN way(" + i + "," + what + ")", x.way(i, what), -3);
+            }
+        }
+        x.set(1, 2);
+        x.set(2, 1);
+        for (int i : numbers) {
+            Due.is("known way(" + i + ",3)", x.way(i, 3), -2);
+            Due.is("known way(" + i + ",-1)", x.way(i, -1), -2);
+        }
     }
 
     private static void wayTellsTheNextValue() {

@@ -187,14 +187,14 @@ public final class HealLink {
     }
 
     public int possible(int i, int what) {
+        if (what < 0 || what > 2) {
+            return NONE;
+        }
         acts.list(rules, state, false);
         if (i == NONE) {
             return acts.size;
         }
-        if (i < 0 || i >= acts.size || what < 0 || what > 2) {
-            return NONE;
-        }
-        return Acts.part(acts.codes[i], what);
+        return i < 0 || i >= acts.size ? NONE : Acts.part(acts.codes[i], what);
     }
 
     public int reached() {
@@ -210,11 +210,11 @@ public final class HealLink {
     }
 
     public int way(int i, int what) {
-        if (i < 0 || what < 0 || what > 2) {
-            return -2;
-        }
         if (!surveyor().covers(rules, state)) {
             return UNKNOWN;
+        }
+        if (i < 0 || what < 0 || what > 2) {
+            return -2;
         }
         int code = survey.codeOnWay(i);
         return code == NONE ? -2 : Acts.part(code, what);
