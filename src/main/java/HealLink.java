@@ -37,6 +37,7 @@ public final class HealLink {
     private final Acts acts = new Acts();
     private final Steps plan = new Steps();
     private final Tape tape = new Tape();
+    private final Survey survey = new Survey();
     private Rules rules = new Rules(1, 3, 3, 2);
     private long state = rules.atFirst();
     private int queueBits;
@@ -45,8 +46,6 @@ public final class HealLink {
     private long keptState;
     private int keptBits;
     private int keptSize;
-    // Most of the room that an object takes, so it is made only where a question needs it.
-    private Survey survey;
 
     public HealLink() {
     }
@@ -64,9 +63,7 @@ public final class HealLink {
         Arrays.fill(counts, 0);
         finished.empty();
         delivered.empty();
-        if (survey != null) {
-            survey.forget();
-        }
+        survey.forget();
         return old;
     }
 
@@ -198,19 +195,19 @@ public final class HealLink {
     }
 
     public int reached() {
-        return surveyor().covers(rules, state) ? survey.atlas.size : UNKNOWN;
+        return survey.covers(rules, state) ? survey.atlas.size : UNKNOWN;
     }
 
     public int worst() {
-        return surveyor().covers(rules, state) ? survey.greatest() : UNKNOWN;
+        return survey.covers(rules, state) ? survey.greatest() : UNKNOWN;
     }
 
     public int soonest() {
-        return surveyor().covers(rules, state) ? survey.actsToBad() : UNKNOWN;
+        return survey.covers(rules, state) ? survey.actsToBad() : UNKNOWN;
     }
 
     public int way(int i, int what) {
-        if (!surveyor().covers(rules, state)) {
+        if (!survey.covers(rules, state)) {
             return UNKNOWN;
         }
         if (i < 0 || what < 0 || what > 2) {
@@ -221,29 +218,29 @@ public final class HealLink {
     }
 
     public int barren() {
-        return surveyor().covers(rules, state) ? survey.withoutGood() : UNKNOWN;
+        return survey.covers(rules, state) ? survey.withoutGood() : UNKNOWN;
     }
 
     public int steps() {
-        return surveyor().covers(rules, state) ? survey.actsToGood() : UNKNOWN;
+        return survey.covers(rules, state) ? survey.actsToGood() : UNKNOWN;
     }
 
     public long odds(int k) {
         if (k < 1 || k > 40) {
             return NONE;
         }
-        return surveyor().covers(rules, state) ? survey.oddsBits(k) : UNKNOWN;
+        return survey.covers(rules, state) ? survey.oddsBits(k) : UNKNOWN;
     }
 
     public int enough() {
-        return surveyor().leastAcks(rules, state);
+        return survey.leastAcks(rules, state);
     }
 
     public int every(int what) {
         if (what < 0 || what > 9) {
             return NONE;
         }
-        return rules.allStates() > MOST_STATES ? UNKNOWN : surveyor().censusOf(rules)[what];
+        return rules.allStates() > MOST_STATES ? UNKNOWN : survey.censusOf(rules)[what];
     }
 
     public int struck() {
@@ -302,13 +299,6 @@ public final class HealLink {
         queueBits = keptBits;
         queueSize = keptSize;
         return true;
-    }
-
-    private Survey surveyor() {
-        if (survey == null) {
-            survey = new Survey();
-        }
-        return survey;
     }
 
     private int put(int at, int n) {
@@ -1083,13 +1073,15 @@ public final class HealLink {
         }
     }
 
-    /** The answers about reached states, each found once as long as nothing changes. */
+    /**
+     * The answers about reached states, each found once as long as nothing changes. All its rows are
+     * made with the link and used again: a row made by a call would count as often as calls may come.
+     */
     private static final class Survey {
         final Atlas atlas = new Atlas();
-        // Made as they are first needed: what is UNKNOWN needs none of them.
-        private Chances chances;
-        private Depths depths;
-        private Ranges ranges;
+        private final Chances chances = new Chances();
+        private final Depths depths = new Depths();
+        private final Ranges ranges = new Ranges();
         private final int[] census = new int[10];
         private boolean counted;
         private long charted = NONE;
@@ -1115,25 +1107,15 @@ public final class HealLink {
             return atlas.known;
         }
 
-        private void measure() {
-            if (depths == null) {
-                depths = new Depths();
-            }
-            depths.measure(atlas);
-        }
-
         int greatest() {
             if (!measured) {
-                measure();
+                depths.measure(atlas);
                 measured = true;
             }
             return depths.worst[0];
         }
 
         private void range() {
-            if (ranges == null) {
-                ranges = new Ranges();
-            }
             if (!ranged) {
                 ranges.measure(atlas);
                 ranged = true;
@@ -1160,9 +1142,6 @@ public final class HealLink {
         }
 
         long oddsBits(int k) {
-            if (chances == null) {
-                chances = new Chances();
-            }
             return chances.bitsAfter(atlas, k);
         }
 
@@ -1206,7 +1185,7 @@ public final class HealLink {
                 if (!atlas.known) {
                     enoughAcks = UNKNOWN;
                 } else {
-                    measure();
+                    depths.measure(atlas);
                     enoughAcks = depths.worst[0] == ENDLESS ? NONE : acks;
                 }
             }
@@ -1221,7 +1200,7 @@ public final class HealLink {
             counted = true;
             charted = NONE;
             atlas.chartAll(rules);
-            measure();
+            depths.measure(atlas);
             int hardest = depths.hardest(atlas.size);
             long state = atlas.states[hardest];
             census[0] = depths.worst[hardest];
