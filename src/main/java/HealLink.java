@@ -136,7 +136,7 @@ public final class HealLink {
             acts.list(rules, state, false);
             int many = lose ? acts.size : acts.withoutLose;
             if (many > 0) {
-                perform(acts.codes[(x >>> 8) % many]);
+                perform(acts.codes.at((x >>> 8) % many));
             }
         }
         return badOnes() - before;
@@ -191,7 +191,7 @@ public final class HealLink {
         if (i == NONE) {
             return acts.size;
         }
-        return i < 0 || i >= acts.size ? NONE : Acts.part(acts.codes[i], what);
+        return i < 0 || i >= acts.size ? NONE : Acts.part(acts.codes.at(i), what);
     }
 
     public int reached() {
@@ -213,7 +213,7 @@ public final class HealLink {
         if (i < 0 || what < 0 || what > 2) {
             return -2;
         }
-        int code = survey.codeOnWay(i);
+        int code = survey.codeOnWay(rules, i);
         return code == NONE ? -2 : Acts.part(code, what);
     }
 
@@ -240,7 +240,7 @@ public final class HealLink {
         if (what < 0 || what > 9) {
             return NONE;
         }
-        return rules.allStates() > MOST_STATES ? UNKNOWN : survey.censusOf(rules)[what];
+        return rules.allStates() > MOST_STATES ? UNKNOWN : survey.censusOf(rules).at(what);
     }
 
     public int struck() {
@@ -356,9 +356,9 @@ public final class HealLink {
 
     /** Does a step, by no more than so many acts, and answers whether it was possible. */
     private boolean doStep(int step, int most) {
-        int what = plan.what[step];
-        int label = plan.first[step];
-        int value = plan.second[step];
+        int what = plan.what.at(step);
+        int label = plan.first.at(step);
+        int value = plan.second.at(step);
         if (what == Steps.CLEAR) {
             int kind = rules.firstPacket(state);
             for (int i = 0; i < label && i < most && kind != NONE; i++) {
@@ -372,6 +372,29 @@ public final class HealLink {
         }
         perform(Acts.codeOf(what, label, value));
         return true;
+    }
+
+    /** A row of numbers: beyond its ends there is 0, and nothing can be put there. */
+    private static final class Cells {
+        private final int[] cells;
+
+        Cells(int size) {
+            cells = new int[Math.max(size, 0)];
+        }
+
+        int at(int i) {
+            return i >= 0 && i < cells.length ? cells[i] : 0;
+        }
+
+        void put(int i, int n) {
+            if (i >= 0 && i < cells.length) {
+                cells[i] = n;
+            }
+        }
+
+        void fill(int n) {
+            Arrays.fill(cells, n);
+        }
     }
 
     /**
@@ -663,7 +686,7 @@ public final class HealLink {
 
     /** The acts of a state in order, each one an int: which, kind, and the next VALUE as told. */
     private static final class Acts {
-        final int[] codes = new int[MOST_ACTS];
+        final Cells codes = new Cells(MOST_ACTS);
         int size;
         int withoutLose;
 
@@ -733,8 +756,8 @@ public final class HealLink {
         }
 
         private void add(int code) {
-            if (size < codes.length) {
-                codes[size] = code;
+            if (size < MOST_ACTS) {
+                codes.put(size, code);
                 size++;
             }
         }
@@ -748,56 +771,66 @@ public final class HealLink {
         private static final int SLOTS = 16384;
         private static final long SPREAD = 0x9E3779B97F4A7C15L;
 
-        final long[] states = new long[MOST_STATES];
-        // Of state s the edges are first[s] to first[s + 1] - 1, each 4 * target + marks.
-        final int[] first = new int[MOST_STATES + 1];
-        final int[] edges = new int[MOST_STATES * MOST_ACTS];
+        // Of state s the edges are those from first.at(s) on, each 4 * target + marks.
+        final Cells first = new Cells(MOST_STATES + 1);
         final Acts acts = new Acts();
         int size;
         boolean known;
-        private final int[] slots = new int[SLOTS];
-        private Rules rules;
+        private final Cells edges = new Cells(MOST_STATES * MOST_ACTS);
+        private final Cells slots = new Cells(SLOTS);
+        private final long[] states = new long[MOST_STATES];
 
         /** The states reached from this one. */
-        void chart(Rules by, long from) {
-            clear(by);
+        void chart(Rules rules, long from) {
+            clear();
             numberOf(from);
-            known = expandAll();
+            known = expandAll(rules);
         }
 
         /** All states that there can be, which must not be too many. */
-        void chartAll(Rules by) {
-            clear(by);
+        void chartAll(Rules rules) {
+            clear();
             long state = 0;
             for (int i = 0; i < MOST_STATES && state != NONE; i++) {
                 numberOf(state);
-                state = by.following(state);
+                state = rules.following(state);
             }
-            known = expandAll();
+            known = expandAll(rules);
         }
 
-        private void clear(Rules by) {
-            rules = by;
+        long stateAt(int s) {
+            return s >= 0 && s < states.length ? states[s] : 0;
+        }
+
+        int targetOf(int e) {
+            return edges.at(e) >> 2;
+        }
+
+        boolean hasMark(int e, int mark) {
+            return (edges.at(e) & mark) != 0;
+        }
+
+        private void clear() {
             size = 0;
-            first[0] = 0;
-            Arrays.fill(slots, 0);
+            first.put(0, 0);
+            slots.fill(0);
         }
 
         /** Whether all that is reached could be numbered. */
-        private boolean expandAll() {
+        private boolean expandAll(Rules rules) {
             int e = 0;
             for (int s = 0; s < size && s < MOST_STATES; s++) {
-                acts.list(rules, states[s], true);
-                for (int i = 0; i < acts.size && e < edges.length; i++) {
-                    long next = rules.after(states[s], acts.codes[i]);
+                acts.list(rules, stateAt(s), true);
+                for (int i = 0; i < acts.size && i < MOST_ACTS; i++) {
+                    long next = rules.after(stateAt(s), acts.codes.at(i));
                     int target = numberOf(next & Rules.STATE);
                     if (target == NONE) {
                         return false;
                     }
-                    edges[e] = 4 * target + markOf(Rules.outcomeOf(next));
+                    edges.put(e, 4 * target + markOf(Rules.outcomeOf(next)));
                     e++;
                 }
-                first[s + 1] = e;
+                first.put(s + 1, e);
             }
             return true;
         }
@@ -813,11 +846,11 @@ public final class HealLink {
         private int numberOf(long state) {
             int slot = (int) (state * SPREAD >>> 50);
             for (int tries = 0; tries < SLOTS; tries++) {
-                int number = slots[slot] - 1;
+                int number = slots.at(slot) - 1;
                 if (number < 0) {
                     return append(state, slot);
                 }
-                if (states[number] == state) {
+                if (stateAt(number) == state) {
                     return number;
                 }
                 slot = slot + 1 & SLOTS - 1;
@@ -826,12 +859,12 @@ public final class HealLink {
         }
 
         private int append(long state, int slot) {
-            if (size >= MOST_STATES) {
+            if (size < 0 || size >= states.length) {
                 return NONE;
             }
             states[size] = state;
             size++;
-            slots[slot] = size;
+            slots.put(slot, size);
             return size - 1;
         }
     }
@@ -840,22 +873,22 @@ public final class HealLink {
     private static final class Depths {
         private static final int OPEN = -3;
 
-        final int[] worst = new int[MOST_STATES];
-        private final int[] met = new int[MOST_STATES];
-        private final int[] low = new int[MOST_STATES];
-        private final int[] stack = new int[MOST_STATES];
-        private final int[] path = new int[MOST_STATES];
-        private final int[] nextEdge = new int[MOST_STATES];
+        final Cells worst = new Cells(MOST_STATES);
+        private final Cells met = new Cells(MOST_STATES);
+        private final Cells low = new Cells(MOST_STATES);
+        private final Cells stack = new Cells(MOST_STATES);
+        private final Cells path = new Cells(MOST_STATES);
+        private final Cells nextEdge = new Cells(MOST_STATES);
         private int clock;
         private int height;
 
         void measure(Atlas atlas) {
-            Arrays.fill(met, 0);
-            Arrays.fill(worst, OPEN);
+            met.fill(0);
+            worst.fill(OPEN);
             clock = 0;
             height = 0;
             for (int s = 0; s < atlas.size; s++) {
-                if (met[s] == 0) {
+                if (met.at(s) == 0) {
                     visit(atlas, s);
                 }
             }
@@ -865,42 +898,46 @@ public final class HealLink {
             int depth = 0;
             enter(atlas, root, depth);
             // Each turn uses up an edge or leaves a state.
-            int turns = atlas.first[atlas.size] + atlas.size;
+            int turns = atlas.first.at(atlas.size) + atlas.size;
             for (int turn = 0; turn < turns && depth >= 0; turn++) {
-                int s = path[depth];
-                int e = nextEdge[depth];
-                if (e < atlas.first[s + 1]) {
-                    nextEdge[depth] = e + 1;
-                    int target = atlas.edges[e] >> 2;
-                    if (met[target] == 0) {
+                int s = path.at(depth);
+                int e = nextEdge.at(depth);
+                if (e < atlas.first.at(s + 1)) {
+                    nextEdge.put(depth, e + 1);
+                    int target = atlas.targetOf(e);
+                    if (met.at(target) == 0) {
                         depth++;
                         enter(atlas, target, depth);
-                    } else if (worst[target] == OPEN) {
-                        low[s] = Math.min(low[s], met[target]);
+                    } else if (worst.at(target) == OPEN) {
+                        lower(s, met.at(target));
                     }
                 } else {
                     closeAt(atlas, s);
                     depth--;
                     if (depth >= 0) {
-                        low[path[depth]] = Math.min(low[path[depth]], low[s]);
+                        lower(path.at(depth), low.at(s));
                     }
                 }
             }
         }
 
+        private void lower(int s, int to) {
+            low.put(s, Math.min(low.at(s), to));
+        }
+
         private void enter(Atlas atlas, int s, int depth) {
             clock++;
-            met[s] = clock;
-            low[s] = clock;
-            stack[height] = s;
+            met.put(s, clock);
+            low.put(s, clock);
+            stack.put(height, s);
             height++;
-            path[depth] = s;
-            nextEdge[depth] = atlas.first[s];
+            path.put(depth, s);
+            nextEdge.put(depth, atlas.first.at(s));
         }
 
         /** If s is the eldest of its component, that is all that stands on the stack from s on. */
         private void closeAt(Atlas atlas, int s) {
-            if (low[s] != met[s]) {
+            if (low.at(s) != met.at(s)) {
                 return;
             }
             int most = 0;
@@ -908,11 +945,11 @@ public final class HealLink {
             boolean reachedRoot = false;
             while (from > 0 && !reachedRoot) {
                 from--;
-                most = greater(most, greatestOf(atlas, stack[from]));
-                reachedRoot = stack[from] == s;
+                most = greater(most, greatestOf(atlas, stack.at(from)));
+                reachedRoot = stack.at(from) == s;
             }
             for (int i = from; i < height; i++) {
-                worst[stack[i]] = most;
+                worst.put(stack.at(i), most);
             }
             height = from;
         }
@@ -920,9 +957,9 @@ public final class HealLink {
         /** By the state's own edges; a BAD one that stays in its component can come again. */
         private int greatestOf(Atlas atlas, int s) {
             int most = 0;
-            for (int e = atlas.first[s]; e < atlas.first[s + 1]; e++) {
-                int behind = worst[atlas.edges[e] >> 2];
-                boolean bad = (atlas.edges[e] & Atlas.BAD_MARK) != 0;
+            for (int e = atlas.first.at(s); e < atlas.first.at(s + 1); e++) {
+                int behind = worst.at(atlas.targetOf(e));
+                boolean bad = atlas.hasMark(e, Atlas.BAD_MARK);
                 if (behind == OPEN) {
                     most = greater(most, bad ? ENDLESS : 0);
                 } else {
@@ -942,8 +979,8 @@ public final class HealLink {
         /** The first state that has the greatest WORST. */
         int hardest(int size) {
             int best = 0;
-            for (int s = 1; s < size && worst[best] != ENDLESS; s++) {
-                if (worst[s] == ENDLESS || worst[s] > worst[best]) {
+            for (int s = 1; s < size && worst.at(best) != ENDLESS; s++) {
+                if (worst.at(s) == ENDLESS || worst.at(s) > worst.at(best)) {
                     best = s;
                 }
             }
@@ -953,11 +990,11 @@ public final class HealLink {
 
     /** Of each state by how many acts there can be something BAD, or GOOD; 0: never. */
     private static final class Ranges {
-        final int[] toBad = new int[MOST_STATES];
-        final int[] toGood = new int[MOST_STATES];
-        private final int[] line = new int[MOST_STATES];
-        private final int[] firstBack = new int[MOST_STATES + 1];
-        private final int[] sources = new int[MOST_STATES * MOST_ACTS];
+        final Cells toBad = new Cells(MOST_STATES);
+        final Cells toGood = new Cells(MOST_STATES);
+        private final Cells line = new Cells(MOST_STATES);
+        private final Cells firstBack = new Cells(MOST_STATES + 1);
+        private final Cells sources = new Cells(MOST_STATES * MOST_ACTS);
 
         void measure(Atlas atlas) {
             turnRound(atlas);
@@ -965,50 +1002,52 @@ public final class HealLink {
             spread(atlas, Atlas.GOOD_MARK, toGood);
         }
 
-        /** Of state s the sources of its edges are those from firstBack[s] on. */
+        /** Of state s the sources of its edges are those from firstBack.at(s) on. */
         private void turnRound(Atlas atlas) {
-            int all = atlas.first[atlas.size];
-            Arrays.fill(firstBack, 0);
+            int all = atlas.first.at(atlas.size);
+            firstBack.fill(0);
             for (int e = 0; e < all; e++) {
-                firstBack[atlas.edges[e] >> 2]++;
+                int target = atlas.targetOf(e);
+                firstBack.put(target, firstBack.at(target) + 1);
             }
             for (int s = 1; s <= atlas.size; s++) {
-                firstBack[s] += firstBack[s - 1];
+                firstBack.put(s, firstBack.at(s) + firstBack.at(s - 1));
             }
             for (int s = 0; s < atlas.size; s++) {
-                for (int e = atlas.first[s]; e < atlas.first[s + 1]; e++) {
-                    int target = atlas.edges[e] >> 2;
-                    firstBack[target]--;
-                    sources[firstBack[target]] = s;
+                for (int e = atlas.first.at(s); e < atlas.first.at(s + 1); e++) {
+                    int target = atlas.targetOf(e);
+                    int place = firstBack.at(target) - 1;
+                    firstBack.put(target, place);
+                    sources.put(place, s);
                 }
             }
         }
 
-        private void spread(Atlas atlas, int mark, int[] to) {
+        private void spread(Atlas atlas, int mark, Cells to) {
             int tail = 0;
             for (int s = 0; s < atlas.size; s++) {
-                to[s] = hasMark(atlas, s, mark) ? 1 : 0;
-                if (to[s] == 1) {
-                    line[tail] = s;
+                to.put(s, canDo(atlas, s, mark) ? 1 : 0);
+                if (to.at(s) == 1) {
+                    line.put(tail, s);
                     tail++;
                 }
             }
             for (int head = 0; head < tail && head < MOST_STATES; head++) {
-                int s = line[head];
-                for (int b = firstBack[s]; b < firstBack[s + 1]; b++) {
-                    int source = sources[b];
-                    if (to[source] == 0) {
-                        to[source] = to[s] + 1;
-                        line[tail] = source;
+                int s = line.at(head);
+                for (int b = firstBack.at(s); b < firstBack.at(s + 1); b++) {
+                    int source = sources.at(b);
+                    if (to.at(source) == 0) {
+                        to.put(source, to.at(s) + 1);
+                        line.put(tail, source);
                         tail++;
                     }
                 }
             }
         }
 
-        private static boolean hasMark(Atlas atlas, int s, int mark) {
-            for (int e = atlas.first[s]; e < atlas.first[s + 1]; e++) {
-                if ((atlas.edges[e] & mark) != 0) {
+        private static boolean canDo(Atlas atlas, int s, int mark) {
+            for (int e = atlas.first.at(s); e < atlas.first.at(s + 1); e++) {
+                if (atlas.hasMark(e, mark)) {
                     return true;
                 }
             }
@@ -1034,22 +1073,26 @@ public final class HealLink {
                 then = row;
             }
             double all = 0.0;
-            for (int s = 0; s < atlas.size; s++) {
+            for (int s = 0; s < atlas.size && s < now.length; s++) {
                 all += now[s];
             }
             return bitsOf(all);
         }
 
         private void move(Atlas atlas) {
-            for (int s = 0; s < atlas.size; s++) {
-                int many = atlas.first[s + 1] - atlas.first[s];
+            for (int s = 0; s < atlas.size && s < now.length; s++) {
+                int many = atlas.first.at(s + 1) - atlas.first.at(s);
                 if (now[s] != 0.0 && many > 0) {
-                    double q = now[s] / (double) many;
-                    for (int e = atlas.first[s]; e < atlas.first[s + 1]; e++) {
-                        if ((atlas.edges[e] & Atlas.BAD_MARK) == 0) {
-                            then[atlas.edges[e] >> 2] += q;
-                        }
-                    }
+                    pass(atlas, s, now[s] / (double) many);
+                }
+            }
+        }
+
+        private void pass(Atlas atlas, int s, double q) {
+            for (int e = atlas.first.at(s); e < atlas.first.at(s + 1); e++) {
+                int target = atlas.targetOf(e);
+                if (!atlas.hasMark(e, Atlas.BAD_MARK) && target >= 0 && target < then.length) {
+                    then[target] += q;
                 }
             }
         }
@@ -1082,7 +1125,7 @@ public final class HealLink {
         private final Chances chances = new Chances();
         private final Depths depths = new Depths();
         private final Ranges ranges = new Ranges();
-        private final int[] census = new int[10];
+        private final Cells census = new Cells(10);
         private boolean counted;
         private long charted = NONE;
         private boolean measured;
@@ -1112,7 +1155,7 @@ public final class HealLink {
                 depths.measure(atlas);
                 measured = true;
             }
-            return depths.worst[0];
+            return depths.worst.at(0);
         }
 
         private void range() {
@@ -1124,19 +1167,19 @@ public final class HealLink {
 
         int actsToBad() {
             range();
-            return ranges.toBad[0] == 0 ? NONE : ranges.toBad[0];
+            return ranges.toBad.at(0) == 0 ? NONE : ranges.toBad.at(0);
         }
 
         int actsToGood() {
             range();
-            return ranges.toGood[0] == 0 ? NONE : ranges.toGood[0];
+            return ranges.toGood.at(0) == 0 ? NONE : ranges.toGood.at(0);
         }
 
         int withoutGood() {
             range();
             int many = 0;
             for (int s = 0; s < atlas.size; s++) {
-                many += ranges.toGood[s] == 0 ? 1 : 0;
+                many += ranges.toGood.at(s) == 0 ? 1 : 0;
             }
             return many;
         }
@@ -1146,30 +1189,29 @@ public final class HealLink {
         }
 
         /** The i-th act on the way to something BAD, NONE if the way is not so long. */
-        int codeOnWay(int i) {
+        int codeOnWay(Rules rules, int i) {
             range();
-            if (i >= ranges.toBad[0]) {
+            if (i >= ranges.toBad.at(0)) {
                 return NONE;
             }
             int s = 0;
             for (int step = 0; step < i; step++) {
-                s = atlas.edges[soonestEdge(s)] >> 2;
+                s = atlas.targetOf(soonestEdge(s));
             }
-            atlas.acts.list(atlas.rules, atlas.states[s], true);
-            int act = soonestEdge(s) - atlas.first[s];
-            return act < atlas.acts.size ? atlas.acts.codes[act] : NONE;
+            atlas.acts.list(rules, atlas.stateAt(s), true);
+            return atlas.acts.codes.at(soonestEdge(s) - atlas.first.at(s));
         }
 
         private int soonestEdge(int s) {
-            int left = ranges.toBad[s];
-            for (int e = atlas.first[s]; e < atlas.first[s + 1]; e++) {
-                boolean leads = left == 1 ? (atlas.edges[e] & Atlas.BAD_MARK) != 0
-                    : ranges.toBad[atlas.edges[e] >> 2] == left - 1;
+            int left = ranges.toBad.at(s);
+            for (int e = atlas.first.at(s); e < atlas.first.at(s + 1); e++) {
+                boolean leads = left == 1 ? atlas.hasMark(e, Atlas.BAD_MARK)
+                    : ranges.toBad.at(atlas.targetOf(e)) == left - 1;
                 if (leads) {
                     return e;
                 }
             }
-            return atlas.first[s];
+            return atlas.first.at(s);
         }
 
         int leastAcks(Rules rules, long state) {
@@ -1186,14 +1228,14 @@ public final class HealLink {
                     enoughAcks = UNKNOWN;
                 } else {
                     depths.measure(atlas);
-                    enoughAcks = depths.worst[0] == ENDLESS ? NONE : acks;
+                    enoughAcks = depths.worst.at(0) == ENDLESS ? NONE : acks;
                 }
             }
             return enoughAcks;
         }
 
         /** The answers of every(), if there are not too many states. */
-        int[] censusOf(Rules rules) {
+        Cells censusOf(Rules rules) {
             if (counted) {
                 return census;
             }
@@ -1202,17 +1244,17 @@ public final class HealLink {
             atlas.chartAll(rules);
             depths.measure(atlas);
             int hardest = depths.hardest(atlas.size);
-            long state = atlas.states[hardest];
-            census[0] = depths.worst[hardest];
-            census[1] = atlas.size;
-            census[2] = Rules.labelOf(state);
-            census[3] = Rules.valueOf(state);
-            census[4] = Rules.acksOf(state);
-            census[5] = Rules.takenOf(state) ? 1 : 0;
-            census[6] = Rules.lastOf(state);
-            census[7] = Rules.packetsIn(state);
-            census[8] = Rules.lettersIn(state);
-            census[9] = Rules.seenIn(state);
+            long state = atlas.stateAt(hardest);
+            census.put(0, depths.worst.at(hardest));
+            census.put(1, atlas.size);
+            census.put(2, Rules.labelOf(state));
+            census.put(3, Rules.valueOf(state));
+            census.put(4, Rules.acksOf(state));
+            census.put(5, Rules.takenOf(state) ? 1 : 0);
+            census.put(6, Rules.lastOf(state));
+            census.put(7, Rules.packetsIn(state));
+            census.put(8, Rules.lettersIn(state));
+            census.put(9, Rules.seenIn(state));
             return census;
         }
     }
@@ -1223,7 +1265,7 @@ public final class HealLink {
 
         int size;
         private long bits;
-        private final int[] line = new int[MOST + 1];
+        private final Cells line = new Cells(MOST + 1);
 
         void empty() {
             size = 0;
@@ -1241,17 +1283,17 @@ public final class HealLink {
 
         /** How long the longest row is that both rows leave when some of each are struck out. */
         int commonWith(Row other) {
-            Arrays.fill(line, 0);
+            line.fill(0);
             for (int i = 0; i < size; i++) {
                 int corner = 0;
                 for (int j = 1; j <= other.size; j++) {
-                    int above = line[j];
-                    line[j] = valueAt(i) == other.valueAt(j - 1) ? corner + 1
-                        : Math.max(above, line[j - 1]);
+                    int above = line.at(j);
+                    line.put(j, valueAt(i) == other.valueAt(j - 1) ? corner + 1
+                        : Math.max(above, line.at(j - 1)));
                     corner = above;
                 }
             }
-            return line[other.size];
+            return line.at(other.size);
         }
     }
 
@@ -1265,12 +1307,12 @@ public final class HealLink {
         // The shortest are again0[]; with two steps in nine bytes: 240 bytes hold 53 of them.
         private static final int MOST = 64;
 
-        final int[] what = new int[MOST];
-        final int[] first = new int[MOST];
-        final int[] second = new int[MOST];
-        private final int[] opened = new int[MOST_OPEN];
-        private final int[] left = new int[MOST_OPEN];
-        private final int[] doneBefore = new int[MOST_OPEN];
+        final Cells what = new Cells(MOST);
+        final Cells first = new Cells(MOST);
+        final Cells second = new Cells(MOST);
+        private final Cells opened = new Cells(MOST_OPEN);
+        private final Cells left = new Cells(MOST_OPEN);
+        private final Cells doneBefore = new Cells(MOST_OPEN);
         private int size;
         private int depth;
         private int at;
@@ -1290,16 +1332,16 @@ public final class HealLink {
 
         void add(int step, int one, int two) {
             if (size < MOST) {
-                what[size] = step;
-                first[size] = one;
-                second[size] = two;
+                what.put(size, step);
+                first.put(size, one);
+                second.put(size, two);
                 size++;
             }
         }
 
         void open(int times) {
             if (mayOpen()) {
-                opened[depth] = size;
+                opened.put(depth, size);
                 depth++;
                 add(AGAIN, times, size);
             }
@@ -1308,8 +1350,8 @@ public final class HealLink {
         void close() {
             if (mayClose()) {
                 depth--;
-                second[opened[depth]] = size;
-                add(CLOSE, opened[depth], 0);
+                second.put(opened.at(depth), size);
+                add(CLOSE, opened.at(depth), 0);
             }
         }
 
@@ -1321,9 +1363,9 @@ public final class HealLink {
         /** The next step that is no AGAIN or CLOSE, NONE behind the last one. */
         int next(int done) {
             for (int turn = 0; turn < MOST_TURNS && at >= 0 && at < size; turn++) {
-                if (what[at] == AGAIN) {
+                if (what.at(at) == AGAIN) {
                     enter(done);
-                } else if (what[at] == CLOSE) {
+                } else if (what.at(at) == CLOSE) {
                     leave(done);
                 } else {
                     at++;
@@ -1334,23 +1376,23 @@ public final class HealLink {
         }
 
         private void enter(int done) {
-            if (first[at] > 0 && mayOpen()) {
-                left[depth] = first[at];
-                doneBefore[depth] = done;
+            if (first.at(at) > 0 && mayOpen()) {
+                left.put(depth, first.at(at));
+                doneBefore.put(depth, done);
                 depth++;
                 at++;
             } else {
-                at = second[at] + 1;
+                at = second.at(at) + 1;
             }
         }
 
         private void leave(int done) {
             int top = depth - 1;
             // A round without an act changed nothing, so the rounds left would not either.
-            if (top >= 0 && left[top] > 1 && done > doneBefore[top]) {
-                left[top]--;
-                doneBefore[top] = done;
-                at = first[at] + 1;
+            if (top >= 0 && left.at(top) > 1 && done > doneBefore.at(top)) {
+                left.put(top, left.at(top) - 1);
+                doneBefore.put(top, done);
+                at = first.at(at) + 1;
             } else {
                 depth = Math.max(top, 0);
                 at++;
@@ -1369,7 +1411,7 @@ public final class HealLink {
         private static final int TOO_DEEP = 3;
 
         int length;
-        private final int[] bytes = new int[MOST];
+        private final Cells bytes = new Cells(MOST);
         private int stop;
         private int at;
         private int fault;
@@ -1380,7 +1422,7 @@ public final class HealLink {
 
         void append(long eight) {
             for (int shift = 56; shift >= 0 && length < MOST; shift -= 8) {
-                bytes[length] = (int) (eight >>> shift) & 255;
+                bytes.put(length, (int) (eight >>> shift) & 255);
                 length++;
             }
         }
@@ -1486,7 +1528,7 @@ public final class HealLink {
                 return false;
             }
             for (int i = 0; i < word.length(); i++) {
-                if (bytes[start + i] != word.charAt(i)) {
+                if (bytes.at(start + i) != word.charAt(i)) {
                     return false;
                 }
             }
@@ -1525,7 +1567,7 @@ public final class HealLink {
         }
 
         private int peek() {
-            return at >= 0 && at < stop && at < MOST ? bytes[at] : NONE;
+            return at < stop ? bytes.at(at) : NONE;
         }
 
         /** Reading goes on along the text, so what is blamed first is the first fault. */
