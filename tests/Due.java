@@ -2,28 +2,41 @@
 final class Due {
     private static int wrong = 0;
     private static int asked = 0;
+    private static int sentences = 0;
+    private static String sentence = "";
 
     private Due() {
     }
 
-    static void is(String call, long got, long want) {
+    static void is(String call, String got, String want) {
         asked++;
-        if (got != want) {
+        if (!got.equals(want)) {
             wrong++;
-            System.out.println(call + " answered " + got + ", due is " + want);
+            System.out.println(sentence + call + " answered " + got + ", due is " + want);
         }
     }
 
-    static void is(String call, boolean got, boolean want) {
-        is(call, got ? 1 : 0, want ? 1 : 0);
+    static void is(String call, long got, long want) {
+        is(call, Long.toString(got), Long.toString(want));
     }
 
-    static boolean anyWrong() {
-        return wrong > 0;
+    static void is(String call, boolean got, boolean want) {
+        is(call, Boolean.toString(got), Boolean.toString(want));
+    }
+
+    /** Runs the test of one sentence of the document, which must ask for something. */
+    static void sentence(String words, Runnable test) {
+        int before = asked;
+        sentence = "\"" + words + "\": ";
+        test.run();
+        is("a test", asked > before, true);
+        sentence = "";
+        sentences++;
     }
 
     static void close(String test) {
-        System.out.println(test + ": " + asked + " answers, " + wrong + " not as due");
+        String of = sentences > 0 ? " of " + sentences + " sentences" : "";
+        System.out.println(test + ": " + asked + " answers" + of + ", " + wrong + " not as due");
         if (wrong > 0 || asked == 0) {
             System.exit(1);
         }

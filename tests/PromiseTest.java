@@ -1,11 +1,5 @@
-import java.nio.charset.StandardCharsets;
-import java.util.NoSuchElementException;
-
 /** Each promise by hand: ordinary calls, the edges that the document names, wrong ones. */
-public final class PromiseTest {
-    private static final int NONE = HealLink.NONE;
-    private static final int THROWS = -1000;
-
+public final class PromiseTest extends Links {
     private PromiseTest() {
     }
 
@@ -43,55 +37,6 @@ public final class PromiseTest {
         scriptFaults();
         imageAndBack();
         Due.close("PromiseTest");
-    }
-
-    private static HealLink link(int capacity, int labels, int acks, int copies) {
-        HealLink x = new HealLink();
-        x.set(0, capacity);
-        x.set(1, labels);
-        x.set(2, acks);
-        x.set(3, copies);
-        return x;
-    }
-
-    private static int kindOf(HealLink x, int label, int value, int what) {
-        try {
-            return x.kind(label, value, what);
-        } catch (NoSuchElementException e) {
-            return THROWS;
-        }
-    }
-
-    private static int queuedOf(HealLink x, int i) {
-        try {
-            return x.queued(i);
-        } catch (NoSuchElementException e) {
-            return THROWS;
-        }
-    }
-
-    private static void feed(HealLink x, String text) {
-        byte[] bytes = text.getBytes(StandardCharsets.ISO_8859_1);
-        int before = x.of(12);
-        for (int at = 0; at < bytes.length; at += 24) {
-            long[] words = new long[3];
-            for (int i = 0; i < 24; i++) {
-                words[i / 8] = words[i / 8] << 8 | (at + i < bytes.length ? bytes[at + i] & 255 : 0);
-            }
-            x.feed(words[0], words[1], words[2]);
-        }
-        x.end(before + bytes.length);
-    }
-
-    private static int script(HealLink x, String text) {
-        feed(x, text);
-        return x.script();
-    }
-
-    private static void state(String when, HealLink x, int... want) {
-        for (int what = 0; what < want.length; what++) {
-            Due.is(when + ": of(" + what + ")", x.of(what), want[what]);
-        }
     }
 
     // Promise 1
