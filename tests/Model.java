@@ -36,9 +36,17 @@ final class Model {
             return s;
         }
 
+        /** Two states have the same key only if they are the same. */
         String key() {
-            return label + "," + value + "," + acks + "," + taken + "," + last
-                + Arrays.deepToString(seen) + Arrays.deepToString(packets) + Arrays.toString(letters);
+            StringBuilder all = new StringBuilder(25);
+            all.append((char) label).append((char) value).append((char) acks);
+            all.append((char) (taken ? 1 : 0)).append((char) last);
+            for (int i = 0; i < 4; i++) {
+                all.append((char) seen[i][0]).append((char) seen[i][1]);
+                all.append((char) packets[i][0]).append((char) packets[i][1]);
+                all.append((char) letters[i]);
+            }
+            return all.toString();
         }
 
         int packetsInAll() {

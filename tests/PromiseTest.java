@@ -265,13 +265,8 @@ public final class PromiseTest extends Links {
         Due.is("COME of LABEL -1", x.act(2, -1, 0), NONE);
     }
 
-    // Promise 10
+    // Promise 10: ActBoundaryTest does each run by hand, too.
     private static void run() {
-        int[] seeds = {0, 1, -7, 123456789, Integer.MIN_VALUE};
-        for (int seed : seeds) {
-            runAsByHand(seed, true, 200);
-            runAsByHand(seed, false, 77);
-        }
         HealLink x = new HealLink();
         Due.is("run(0)", x.run(0, 1, true), NONE);
         Due.is("run(201)", x.run(201, 1, true), NONE);
@@ -279,28 +274,6 @@ public final class PromiseTest extends Links {
         Due.is("nothing was done", x.count(0), 0);
         Due.is("run(1)", x.run(1, 1, true), 0);
         Due.is("one ACT", x.count(0), 1);
-    }
-
-    private static void runAsByHand(int seed, boolean lose, int n) {
-        HealLink x = link(2, 2, 1, 1);
-        HealLink y = link(2, 2, 1, 1);
-        int bad = 0;
-        int drawn = seed;
-        for (int i = 0; i < n; i++) {
-            drawn = drawn * 1103515245 + 12345;
-            int many = 0;
-            for (int j = 0; j < y.possible(NONE, 0); j++) {
-                many += lose || y.possible(j, 0) < 3 ? 1 : 0;
-            }
-            int act = (drawn >>> 8) % many;
-            int answer = y.act(y.possible(act, 0), y.possible(act, 1), y.possible(act, 2));
-            bad += answer == 2 || answer == 3 || answer == 5 ? 1 : 0;
-        }
-        Due.is("run(" + n + "," + seed + "," + lose + ")", x.run(n, seed, lose), bad);
-        for (int what = 0; what < 13; what++) {
-            Due.is("run: of(" + what + ")", x.of(what), y.of(what));
-            Due.is("run: count(" + what + ")", x.count(what), y.count(what));
-        }
     }
 
     // Promise 11

@@ -11,6 +11,15 @@ public final class SearchBoundaryTest extends Links {
     private static final int UNKNOWN = -3;
     private static final int NO_WAY = -2;
 
+    /** CAPACITY, LABELS, ACKS and COPIES WANTED, and what every() tells from 0 to 9: the Model says the same. */
+    private static final String KNOWN_EVERY = "1 2 1 1: 3 240 0 0 0 0 0 1 1 0; 1 2 1 2: -2 3840 0 0 0 0 0 0 0 0; "
+        + "1 2 2 1: 3 480 0 0 1 0 0 1 1 0; 1 2 3 1: 3 720 0 0 2 0 0 1 1 0; 1 2 4 1: 3 960 0 0 3 0 0 1 1 0; "
+        + "1 2 5 1: 3 1200 0 0 4 0 0 1 1 0; 1 2 6 1: 3 1440 0 0 5 0 0 1 1 0; 1 2 7 1: 3 1680 0 0 6 0 0 1 1 0; "
+        + "1 3 1 1: 3 1008 0 0 0 0 0 1 1 0; 1 3 2 1: 3 2016 0 0 1 0 0 1 1 0; 1 3 3 1: 3 3024 0 0 2 0 0 1 1 0; "
+        + "1 3 4 1: 3 4032 0 0 3 0 0 1 1 0; 1 3 5 1: 3 5040 0 0 4 0 0 1 1 0; 1 4 1 1: 3 2880 0 0 0 0 0 1 1 0; "
+        + "1 4 2 1: 3 5760 0 0 1 0 0 1 1 0; 2 2 1 1: -2 1440 0 0 0 0 0 0 0 0; 2 2 2 1: -2 2880 0 0 0 0 0 0 0 0; "
+        + "2 2 3 1: -2 4320 0 0 0 0 0 0 0 0; 2 2 4 1: -2 5760 0 0 0 0 0 0 0 0";
+
     private SearchBoundaryTest() {
     }
 
@@ -20,10 +29,12 @@ public final class SearchBoundaryTest extends Links {
         worst();
         soonest();
         way();
+        wayAsPossible();
         barrenAndSteps();
         odds();
         enough();
         every();
+        hardest();
         questions();
         Due.close("SearchBoundaryTest");
     }
@@ -296,6 +307,9 @@ public final class SearchBoundaryTest extends Links {
                 Due.is("way(-1, " + what + ")", x.way(-1, what), NO_WAY);
             }
         });
+    }
+
+    private static void wayAsPossible() {
         Due.sentence("WAY: the first act that leads to it soonest", () -> {
             HealLink x = link(2, 2, 1, 1);
             x.packets(1, 1, 1);
@@ -433,6 +447,18 @@ public final class SearchBoundaryTest extends Links {
                 }
             }
         });
+        Due.sentence("ENOUGH: all else as it is: asked again behind each set()", () -> {
+            HealLink x = link(1, 2, 7, 1);
+            for (int copies = 1; copies <= 4; copies++) {
+                x.set(3, copies);
+                Due.is("enough()", x.enough(), copies);
+                Due.is("enough() again", x.enough(), copies);
+                x.set(0, 2);
+                Due.is("enough() at CAPACITY 2", x.enough(), copies == 1 ? NONE : copies == 2 ? 4 : UNKNOWN);
+                x.set(0, 1);
+                Due.is("enough() at CAPACITY 1", x.enough(), copies);
+            }
+        });
         Due.sentence("ENOUGH: (up to 7); NONE: by none", () -> {
             new Pair(2, 2, 1, 1).enough(NONE);
             new Pair(2, 2, 7, 1).sender(1, 0, 6, true).enough(NONE);
@@ -502,6 +528,9 @@ public final class SearchBoundaryTest extends Links {
             }
             Due.is("every(9)", link(1, 2, 1, 1).every(9), 0);
         });
+    }
+
+    private static void hardest() {
         Due.sentence("EVERY: the greatest WORST; the HARDEST is the first that has it", () -> {
             int[][] settings = {{1, 2, 1, 1}, {1, 2, 7, 1}, {1, 2, 1, 2}, {1, 3, 1, 1}, {1, 3, 5, 1}, {1, 4, 1, 1},
                 {1, 4, 2, 1}, {2, 2, 1, 1}, {2, 2, 4, 1}};
@@ -510,6 +539,20 @@ public final class SearchBoundaryTest extends Links {
                 for (int what = 0; what < 10; what++) {
                     Due.is("every(" + what + ")", p.link.every(what), p.model.every(what));
                 }
+            }
+        });
+        Due.sentence("EVERY: of each setting by which there are no more than 6000 states", () -> {
+            for (String row : KNOWN_EVERY.split("; ")) {
+                String[] parts = row.split(": ");
+                String[] setting = parts[0].split(" ");
+                HealLink x = link(Integer.parseInt(setting[0]), Integer.parseInt(setting[1]),
+                    Integer.parseInt(setting[2]), Integer.parseInt(setting[3]));
+                x.reached();
+                StringBuilder answers = new StringBuilder();
+                for (int what = 0; what < 10; what++) {
+                    answers.append(what > 0 ? " " : "").append(x.every(what));
+                }
+                Due.is("every() of " + parts[0] + ", behind reached(),", answers.toString(), parts[1]);
             }
         });
         Due.sentence("EVERY: of all states by CAPACITY, LABELS, ACKS and COPIES, whatever is now", () -> {
@@ -546,32 +589,57 @@ public final class SearchBoundaryTest extends Links {
                 x.queue(5, 3);
                 feed(x, "send;");
                 String before = everything(x);
-                ask(x);
+                for (int i = 0; i < QUESTIONS; i++) {
+                    answer(x, i);
+                }
                 Due.is("all", everything(x), before);
-                int reached = x.reached();
-                int soonest = x.soonest();
-                long odds = x.odds(9);
-                int enough = x.enough();
-                Due.is("enough()", x.enough(), enough);
-                Due.is("reached()", x.reached(), reached);
-                x.every(0);
-                Due.is("soonest()", x.soonest(), soonest);
-                Due.is("odds(9)", x.odds(9), odds);
                 Due.is("back()", x.back(), false);
+            }
+        });
+        Due.sentence("(Questions change nothing.): each answers the same behind each other one", () -> {
+            for (int which = 0; which < 3; which++) {
+                String[] alone = new String[QUESTIONS];
+                for (int i = 0; i < QUESTIONS; i++) {
+                    alone[i] = answer(small(which), i);
+                }
+                HealLink x = small(which);
+                for (int first = 0; first < QUESTIONS; first++) {
+                    for (int then = 0; then < QUESTIONS; then++) {
+                        // Another state between, so that none answers what it has kept.
+                        x.last(1);
+                        answer(x, first);
+                        x.last(0);
+                        answer(x, first);
+                        Due.is("question " + then + " behind " + first, answer(x, then), alone[then]);
+                        Due.is("question " + first + " behind " + then, answer(x, first), alone[first]);
+                    }
+                }
             }
         });
     }
 
-    private static void ask(HealLink x) {
-        x.reached();
-        x.worst();
-        x.soonest();
-        x.way(0, 0);
-        x.barren();
-        x.steps();
-        x.odds(40);
-        x.enough();
-        x.every(0);
-        x.struck();
+    private static final int QUESTIONS = 11;
+
+    private static HealLink small(int which) {
+        HealLink x = which == 0 ? link(1, 2, 1, 2) : which == 1 ? link(2, 2, 2, 1) : link(1, 2, 5, 1);
+        x.packets(0, 1, 1);
+        x.last(0);
+        return x;
+    }
+
+    private static String answer(HealLink x, int which) {
+        switch (which) {
+            case 0: return "" + x.reached();
+            case 1: return "" + x.worst();
+            case 2: return "" + x.soonest();
+            case 3: return x.way(0, 0) + " " + x.way(0, 1) + " " + x.way(0, 2);
+            case 4: return "" + x.barren();
+            case 5: return "" + x.steps();
+            case 6: return "" + x.odds(40);
+            case 7: return "" + x.enough();
+            case 8: return x.every(0) + " " + x.every(1) + " " + x.every(7);
+            case 9: return "" + x.struck();
+            default: return "" + x.possible(NONE, 0);
+        }
     }
 }

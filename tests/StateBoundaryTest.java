@@ -15,10 +15,14 @@ public final class StateBoundaryTest extends Links {
     public static void main(String[] args) {
         newObjects();
         settings();
-        senderAndReceiver();
+        setAnew();
+        sender();
+        receiver();
         channels();
         queues();
         looks();
+        looksAtKinds();
+        looksAtQueue();
         images();
         Due.close("StateBoundaryTest");
     }
@@ -99,6 +103,9 @@ public final class StateBoundaryTest extends Links {
                 }
             }
         });
+    }
+
+    private static void setAnew() {
         Due.sentence("set(): what it was", () -> {
             HealLink x = new HealLink();
             Due.is("set(2, 7)", x.set(2, 7), 3);
@@ -114,6 +121,19 @@ public final class StateBoundaryTest extends Links {
                 x.set(what, x.of(8 + what));
                 Due.is("told", told(x), told(link(2, 3, 3, 3)));
                 Due.is("counted", counted(x), counted(new HealLink()));
+            }
+        });
+        Due.sentence("set(): QUEUE is as at first: nothing of the one before comes back", () -> {
+            for (int what = 0; what < 4; what++) {
+                HealLink x = link(1, 2, 1, 1);
+                x.queue(-1, 20);
+                x.queue(-1, 10);
+                x.set(what, x.of(8 + what));
+                Due.is("queue(0, 20)", x.queue(0, 20), 20);
+                Due.is("queue(0, 10)", x.queue(0, 10), 30);
+                for (int i = 0; i < 30; i++) {
+                    Due.is("queued(" + i + ")", queuedOf(x, i), 0);
+                }
             }
         });
         Due.sentence("set(): but these", StateBoundaryTest::settingsStay);
@@ -173,8 +193,8 @@ public final class StateBoundaryTest extends Links {
         }
     }
 
-    // Promises 3 to 5
-    private static void senderAndReceiver() {
+    // Promise 3
+    private static void sender() {
         Due.sentence("sender(): LABELS 0 to n - 1", () -> {
             for (int n = 2; n <= 4; n++) {
                 HealLink x = link(1, n, 2, 1);
@@ -219,6 +239,10 @@ public final class StateBoundaryTest extends Links {
             Due.is("told", told(x), "0 0 0 1 " + rest);
             Due.is("what it sent is not SKIPPED: counted", counted(x), counted);
         });
+    }
+
+    // Promises 4 and 5
+    private static void receiver() {
         Due.sentence("last(): LABELS 0 to n - 1; what it was; NONE: others", () -> {
             for (int n = 2; n <= 4; n++) {
                 HealLink x = link(1, n, 1, 2);
@@ -445,7 +469,7 @@ public final class StateBoundaryTest extends Links {
         }
     }
 
-    // Promises 11 to 13
+    // Promise 11
     private static void looks() {
         Due.sentence("of(): What 0 to 12; NONE for another what", () -> {
             HealLink x = link(2, 4, 7, 4);
@@ -484,6 +508,10 @@ public final class StateBoundaryTest extends Links {
             x.letters(3, 1);
             Due.is("of(6)", x.of(6), 2);
         });
+    }
+
+    // Promise 12
+    private static void looksAtKinds() {
         Due.sentence("kind(): what 0 to 2; NoSuchElementException: others", () -> {
             HealLink x = busy();
             Due.is("kind(2, 1, 0)", kindOf(x, 2, 1, 0), 0);
@@ -513,6 +541,10 @@ public final class StateBoundaryTest extends Links {
                 Due.is("kind(1, " + value + ", 2)", kindOf(x, 1, value, 2), 1);
             }
         });
+    }
+
+    // Promise 13
+    private static void looksAtQueue() {
         Due.sentence("queued(): The i-th VALUE of QUEUE (from 0); NoSuchElementException: none such", () -> {
             for (int size = 0; size <= 30; size++) {
                 HealLink x = new HealLink();
@@ -575,6 +607,14 @@ public final class StateBoundaryTest extends Links {
                 Due.is("of(4)", x.of(4), 1);
                 Due.is("of(7)", x.of(7), 0);
             }
+        });
+        Due.sentence("back(): QUEUE is as kept: nothing of the one between comes back", () -> {
+            HealLink x = new HealLink();
+            x.image();
+            x.queue(-1, 20);
+            x.back();
+            Due.is("queue(0, 3)", x.queue(0, 3), 3);
+            Due.is("told", told(x), "0 0 0 0 2 0 0 3 1 3 3 2 | 0 0 0 0 0 0 | 0 0 0 0 0 0 | 0 0 0 0 0 0 | 0 0 0 ");
         });
     }
 

@@ -134,6 +134,23 @@ public final class TapeBoundaryTest extends Links {
             Due.is("struck()", rowsOf("10110", "0100").struck(), 3);
             Due.is("struck()", rowsOf("0011", "1100").struck(), 4);
         });
+        Due.sentence("STRUCK: asked again as the rows grow", () -> {
+            HealLink x = link(1, 2, 1, 1);
+            int[] due = {1, 0, 1, 0, 1, 2};
+            for (int i = 0; i < 6; i++) {
+                if (i % 2 == 0 || i == 5) {
+                    finish(x, i / 2 % 2);
+                } else {
+                    deliver(x, i / 2 % 2);
+                }
+                Due.is("struck()", x.struck(), due[i]);
+                Due.is("struck() again", x.struck(), due[i]);
+            }
+            x.set(0, 1);
+            Due.is("struck() behind set()", x.struck(), 0);
+            deliver(x, 1);
+            Due.is("struck() behind set()", x.struck(), 1);
+        });
         Due.sentence("STRUCK: of two full rows none, or all of both", () -> {
             String zeros = "0".repeat(40);
             String ones = "1".repeat(40);
@@ -327,6 +344,8 @@ public final class TapeBoundaryTest extends Links {
         Due.sentence("again: one in the other, one behind the other", () -> {
             does("again 2[again 3[send;];send;];send;", 9);
             does("again 2[send;again 0[send;];];", 2);
+            does("again 2[again 0[send;];send;];", 2);
+            does("again 3[again 0[send;];again 0[];send;again 0[send;send;];];send;", 4);
             does("again 3[again 1[again 2[];];send;];", 3);
             does("again 5[again 4[send;];again 3[send;];];", 35);
         });
@@ -428,6 +447,8 @@ public final class TapeBoundaryTest extends Links {
                 int end = step.indexOf(' ') < 0 ? step.length() : step.indexOf(' ');
                 String word = step.substring(0, end);
                 fault("a" + step + ";", 0, MISPLACED);
+                fault("b" + step.substring(1) + ";", 0, MISPLACED);
+                fault(word.substring(0, 1) + "q" + step.substring(2) + ";", 0, MISPLACED);
                 fault(word + "a" + step.substring(end) + ";", 0, MISPLACED);
                 fault(word + "z" + step.substring(end) + ";", 0, MISPLACED);
                 fault(word.substring(1) + step.substring(end) + ";", 0, MISPLACED);
